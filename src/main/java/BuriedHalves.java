@@ -629,7 +629,7 @@ public final class BuriedHalves {
 
         private boolean isCovered(int thing) {
             for (int t = 0; t < things; t++) {
-                if (!isUp(t) && place[t] == place[thing] && depth[t] < depth[thing]) {
+                if (depth[t] > 0 && place[t] == place[thing] && depth[t] < depth[thing]) {
                     return true;
                 }
             }
@@ -1116,14 +1116,14 @@ public final class BuriedHalves {
 
         private static int bodyFor(int kind, int what) {
             int nearest = kind;
-            for (int step = 0; step < GRAVE && nearest != ANY; step++) {
+            for (int step = 0; step < GRAVE; step++) {
                 int body = what == SIZE ? sizeBody(nearest) : markBody(nearest);
                 if (body != MISSING) {
                     return body;
                 }
                 nearest = kindAbove(nearest);
             }
-            return what == SIZE ? sizeBody(ANY) : markBody(ANY);
+            return MISSING;
         }
 
         private static int sizeBody(int kind) {
