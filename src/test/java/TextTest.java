@@ -164,6 +164,7 @@ public final class TextTest {
         x.bury(0, 0, 40);
         x.tell(4, 0, 1);
         due("asked", x.ask(3, 0), -99);
+        due("no grave", x.as(3, 5), -1000013);
         due("acts", x.count(6), 5);
         due("read anew", read(x, "m1,2;w3,1,4,2;"), 1);
         int[] counts = {1, 1, 2, 0, 1, 0, 0, 0};
@@ -173,9 +174,10 @@ public final class TextTest {
         due("nothing to undo", x.undo(), BuriedHalves.STATE);
         due("no such thing now", x.thing(1, 0), BuriedHalves.BAD);
         due("no such man now", x.knows(2), BuriedHalves.BAD);
-        due("rows stay", x.drop(3), 4);
-        due("trace stays", x.trace(0), 13);
         due("images stay", x.restore(1), 1);
+        due("trace stays", x.trace(0), 13);
+        due("status stays", x.status(), 3);
+        due("rows stay", x.drop(3), 4);
         due("five again", x.count(1), 5);
         due("empty law", read(x, "m0,1;"), 0);
         due("there is a mine", x.up(0), 0);
