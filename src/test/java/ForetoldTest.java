@@ -202,19 +202,21 @@ public final class ForetoldTest {
         lies(x, 7, 1, 0, 2);
         x.bury(0, 0, 30);
         lies(x, 7, 0, 0, 0);
+        // Each text differs from the one before by one kind of number, and is asked first what that was asked last.
         String[] texts = {
-            "m9,1;s5,0,1,0;s6,0,1,0;", "m0,1;s5,0,1,0;s6,0,1,0;", "m0,1;s5,0,1,0;", "m0,1;i8,0,1,0;", "m0,1;i8,0,2,0;",
-            "m0,1;c8,0,2,0;s7,1,1,0;", "m0,1;c8,0,2,0;s1,0,1,0;", "m0,1;c8,0,2,0;s1,1,1,0;", "m0,1;c8,0,1,0;s1,1,1,0;"};
-        int[] moved = {1, 0, 0, 0, 0, 1, 0, 0, 1};
-        int[] movedLater = {1, 0, 0, NONE, 0, 1, 0, 0, 1};
+            "m9,1;s5,0,1,0;", "m9,1;s5,0,1,0;s6,0,1,0;", "m0,1;s5,0,1,0;s6,0,1,0;", "m0,1;s5,0,1,0;s5,1,1,0;",
+            "m0,1;s5,1,1,0;s5,3,1,0;", "m0,1;s8,0,1,0;", "m0,1;i8,0,1,0;", "m0,1;i8,0,2,0;", "m0,1;c8,0,2,0;s7,1,1,0;",
+            "m0,1;c8,0,2,0;s1,0,1,0;", "m0,1;c8,0,2,0;s1,1,1,0;", "m0,1;c8,0,1,0;s1,1,1,0;"};
+        int[] moved = {0, 1, 0, 1, 0, 0, 0, 0, 1, 0, 0, 1};
+        int[] movedLater = {0, 1, 0, 1, 0, 0, NONE, 0, 1, 0, 0, 1};
         BuriedHalves one = new BuriedHalves();
         for (int k = 0; k < texts.length; k++) {
             for (int i = 0; i < texts[k].length(); i++) {
                 one.feed(texts[k].charAt(i));
             }
             one.mine();
-            due("moved in " + texts[k], one.lay(7, -1), moved[k]);
             due("moved later in " + texts[k], one.lay(8, -1), movedLater[k]);
+            due("moved in " + texts[k], one.lay(7, -1), moved[k]);
             due("moved in " + texts[k] + " again", one.lay(8, -1), movedLater[k]);
         }
         BuriedHalves y = mine("m0,1;i9,0,9,0;");
