@@ -610,6 +610,7 @@ public final class BuriedHalves {
             return NONE;
         }
 
+        /** By how much less deep a thing is behind this year: never by more than it is deep. */
         int riseOf(int t) {
             if (isUp(t)) {
                 return 0;
@@ -617,7 +618,7 @@ public final class BuriedHalves {
             switch (sort[t]) {
                 case IRON: return ironRise(t);
                 case CLAY: return ironRise(t) == 0 || isCovered(t) ? 0 : 1;
-                case WOOD: return 2 * ironRise(t);
+                case WOOD: return Math.min(2 * ironRise(t), depth[t]);
                 case GRAVE: return year % 5 == 4 ? 1 : 0;
                 default: return 0;
             }
@@ -645,7 +646,7 @@ public final class BuriedHalves {
             }
             for (int t = 0; t < things; t++) {
                 if (rises[t] > 0) {
-                    depth[t] = Math.max(0, depth[t] - rises[t]);
+                    depth[t] -= rises[t];
                     stirred = true;
                 }
             }

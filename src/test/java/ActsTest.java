@@ -23,6 +23,7 @@ public final class ActsTest {
     public static void main(String[] args) {
         noMine();
         rising();
+        wood();
         clay();
         yearsAnswers();
         lastYear();
@@ -72,7 +73,7 @@ public final class ActsTest {
         rises(x, 0, 0, 0, 0, 1);
         due("the last one comes up", x.years(1), 16);
         depths(x, 3, 1, 5, 5, 0);
-        rises(x, 1, 2, 0, 1, 0);
+        rises(x, 1, 1, 0, 1, 0);
         due("the wooden one, too", x.years(1), 18);
         depths(x, 2, 0, 5, 4, 0);
         due("year 5", x.count(3), 5);
@@ -83,6 +84,24 @@ public final class ActsTest {
         rises(x, 0, 0, 0, 0, 0);
         due("up stays up", x.years(3), 19);
         due("up from the first", mine("m0,1;s0,0,1,0;s1,0,1,0;i0,0,1,0;").years(1), 5);
+    }
+
+    /** No thing rises by more than it is deep. */
+    private static void wood() {
+        rises(mine("m0,1;w1,0,1,0;w2,0,1,0;w3,0,1,0;w0,0,1,0;"), 1, 2, 2, 0);
+        BuriedHalves y = mine("m0,1;w3,0,3,0;");
+        rises(y, 2);
+        y.bury(0, 0, 1);
+        rises(y, 1);
+        due("the last one deep", y.years(1), 1);
+        rises(y, 0);
+        y.undo();
+        rises(y, 1);
+        y.bury(0, 0, 2);
+        rises(y, 2);
+        y.years(1);
+        y.bury(0, 0, 1);
+        rises(y, 0);
     }
 
     private static void clay() {

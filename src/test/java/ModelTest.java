@@ -64,7 +64,8 @@ public final class ModelTest {
 
         World dug(int more) { return new World(things, near, men, year, dug + more); }
 
-        int rise(int t) {
+        /** What lifts a thing this year, even if it is less deep than that. */
+        int lift(int t) {
             Thing it = things.get(t);
             if (it.depth == 0) {
                 return 0;
@@ -86,10 +87,12 @@ public final class ModelTest {
             return iron;
         }
 
+        int rise(int t) { return things.get(t).depth - next().things.get(t).depth; }
+
         World next() {
             List<Thing> then = new ArrayList<>();
             for (int t = 0; t < things.size(); t++) {
-                then.add(things.get(t).depth(things.get(t).depth - rise(t)));
+                then.add(things.get(t).depth(things.get(t).depth - lift(t)));
             }
             return new World(then, near, men, year + 1, dug);
         }
