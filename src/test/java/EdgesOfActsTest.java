@@ -96,20 +96,18 @@ public final class EdgesOfActsTest {
         }
     }
 
-    /** "a clay one so ...; a wooden one by twice what an iron one would". */
+    /** "a clay one so ...; a wooden one by twice what an iron one would": none covers the other. */
     private static void slowOfClayAndWood() {
         for (int slow = 1; slow <= 9; slow++) {
-            BuriedHalves x = mine("m0,1;c40,0," + slow + ",0;w40,0," + slow + ",0;");
+            BuriedHalves x = mine("m0,1;c40,0," + slow + ",0;w40,1," + slow + ",0;");
             int clay = 40;
             int wood = 40;
             for (int year = 0; year < 19; year++) {
-                int iron = year % slow == 0 ? 1 : 0;
-                // From the first rising on the wooden one lies less deep, at the place of the clay one.
-                int clayRise = wood < clay ? 0 : iron;
-                rises("slow " + slow + ", year " + year, x, clayRise, 2 * iron);
+                int rise = year % slow == 0 ? 1 : 0;
+                rises("slow " + slow + ", year " + year, x, rise, 2 * rise);
                 x.years(1);
-                clay -= clayRise;
-                wood -= 2 * iron;
+                clay -= rise;
+                wood -= 2 * rise;
                 depths("slow " + slow + ", behind year " + year, x, clay, wood);
             }
         }
@@ -183,11 +181,16 @@ public final class EdgesOfActsTest {
         rises("the last covers", mine("m0,1;c10,2,1,0;s11,2,1,0;s0,2,1,0;s9,1,1,0;s9,2,1,0;"), 0);
         due("the first covers", mine("m0,1;s9,2,1,0;s0,2,1,0;s9,1,1,0;s11,2,1,0;c10,2,1,0;").thing(4, 5), 0);
         due("none covers", mine("m0,1;s10,2,1,0;s0,2,1,0;s9,1,1,0;s11,2,1,0;c10,2,1,0;").thing(4, 5), 1);
-        rises("covered in a year in which it would not rise", mine("m0,1;c2,2,1,0;c3,2,1,0;c1,2,1,0;"), 0, 0, 1);
+        rises("under clay", mine("m0,1;c2,2,1,0;c3,2,1,0;c1,2,1,0;"), 0, 0, 1);
     }
 
     /** "(ahead of the rising of all)": whichever of both has the lesser number. */
     private static void clayAheadOfTheRising() {
+        BuriedHalves t = mine("m0,1;c40,0,2,0;w40,0,2,0;");
+        t.years(1);
+        depths("as deep ahead of it", t, 39, 38);
+        t.years(24);
+        depths("under the wooden one from then on", t, 39, 14);
         BuriedHalves x = mine("m0,1;i5,0,1,0;c5,0,1,0;");
         x.years(1);
         depths("both as deep", x, 4, 4);

@@ -67,6 +67,8 @@ public final class EdgesOfForetoldTest {
         layFirstOfSeveral();
         layNone();
         layOfAnotherYear();
+        layOfAnotherMine();
+        layOfOtherYearsAhead();
         digDepths();
         digAtItsPlace();
         whomFewest();
@@ -482,6 +484,50 @@ public final class EdgesOfForetoldTest {
         laidAs("year 4", x, 1, NONE);
         x.restore(0);
         laidAs("year 0 restored", x, 1, 0, 0);
+    }
+
+    /** Reads one mine, another one that differs by one number, and the first again: each is told as it is. */
+    private static void layBoth(String one, int[] laid, String other, int[] laidThen) {
+        BuriedHalves x = new BuriedHalves();
+        for (int turn = 0; turn < 3; turn++) {
+            String text = turn == 1 ? other : one;
+            int[] wanted = turn == 1 ? laidThen : laid;
+            read(x, text);
+            due("turn " + turn + ", moved in " + text, x.lay(5, -1), wanted[0]);
+            for (int k = 0; k < 5; k++) {
+                due("turn " + turn + ", place of " + k + " in " + text, x.lay(5, k), k + 1 < wanted.length ? wanted[k + 1] : NONE);
+            }
+        }
+    }
+
+    /** It is told for the MINE as it is now: NEAR, how many THINGS, and all of the first and of the last thing. */
+    private static void layOfAnotherMine() {
+        int[] none = {NONE};
+        layBoth("m0,1;s5,0,1,0;s6,0,1,0;", new int[] {0, 0, 0}, "m1,1;s5,0,1,0;s6,0,1,0;", new int[] {1, 0, 2});
+        layBoth("m0,1;s5,0,1,0;", new int[] {0, 0}, "m0,1;s5,0,1,0;s5,0,1,0;", new int[] {1, 0, 2});
+        layBoth("m0,1;", new int[] {0}, "m0,1;i5,0,1,0;", none);
+        layBoth("m0,1;s3,2,1,0;", new int[] {0, 2}, "m0,1;w3,2,1,0;", none);
+        layBoth("m0,1;i3,2,9,0;", new int[] {0, 2}, "m0,1;i3,2,1,0;", none);
+        layBoth("m0,1;i6,2,1,0;", new int[] {0, 2}, "m0,1;i5,2,1,0;", none);
+        layBoth("m0,1;i6,2,1,0;", new int[] {0, 2}, "m0,1;i6,3,1,0;", new int[] {0, 3});
+        String four = "m0,1;s10,0,1,0;s20,0,1,0;s30,0,1,0;s40,0,1,0;";
+        int[] all = {0, 0, 0, 0, 0, 2};
+        layBoth(four + "s3,2,1,0;", all, four + "w3,2,1,0;", none);
+        layBoth(four + "i3,2,9,0;", all, four + "i3,2,1,0;", none);
+        layBoth(four + "i6,2,1,0;", all, four + "i5,2,1,0;", none);
+        layBoth(four + "i6,2,1,0;", all, four + "i6,3,1,0;", new int[] {0, 0, 0, 0, 0, 3});
+    }
+
+    /** It is told for d: another one, the MINE being as it was. */
+    private static void layOfOtherYearsAhead() {
+        BuriedHalves x = mine("m0,1;i6,0,1,0;s3,1,1,0;");
+        laidAs("d 2", x, 2, 0, 0, 1);
+        laidAs("d 3", x, 3, 1, 0, 2);
+        laidAs("d 5", x, 5, 1, 0, 2);
+        laidAs("d 6", x, 6, NONE);
+        laidAs("d 2 again", x, 2, 0, 0, 1);
+        due("d 61 between them", x.lay(61, -1), BAD);
+        laidAs("d 2 yet", x, 2, 0, 0, 1);
     }
 
     /** "the least DEPTH (1 to 40) it must have now ... NONE". */

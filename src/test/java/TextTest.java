@@ -67,7 +67,7 @@ public final class TextTest {
         due("feed anew", x.feed('m'), 1);
 
         BuriedHalves y = new BuriedHalves();
-        // 5 and 5 times 19 are 100 bytes: no number of a thing can be longer than two figures.
+        // No longer text is a mine but by a 0 ahead of NEAR and of MEN: the tape has room for each.
         due("longest things", read(y, "m9,6;" + "i40,03,09,63;".repeat(5)), 5);
         due("its known", y.thing(4, 3), 63);
     }
